@@ -1,0 +1,198 @@
+/** Promises 1, 9 and 11 to 15: a new object, clear, and the questions about the picture. */
+public final class PictureTest {
+    private static final int[] FAR = {-1, 16, Integer.MIN_VALUE, Integer.MAX_VALUE};
+
+    public static void main(String[] args) {
+        newPicture();
+        newCornersAndPattern();
+        clear();
+        clearRefuses();
+        questionsAboutPixels();
+        questionsRefuse();
+        digest();
+        digestWraps();
+        hits();
+        questionsChangeNothing();
+        objectsAreApart();
+        Check.end();
+    }
+
+    private static void everyPixel(TileRenderer r, int colour, int depth, int mark, int seed) {
+        for (int k = seed; k < 256; k += 2) {
+            int x = k % 16;
+            int y = k / 16;
+            Check.same("colour(" + x + ", " + y + ")", r.colour(x, y), colour);
+            Check.same("depth(" + x + ", " + y + ")", r.depth(x, y), depth);
+            Check.same("mark(" + x + ", " + y + ")", r.mark(x, y), mark);
+        }
+    }
+
+    private static void newPicture() {
+        // Two objects, so that neither is asked more than 512 times.
+        everyPixel(new TileRenderer(), 0, 255, 0, 0);
+        everyPixel(new TileRenderer(), 0, 255, 0, 1);
+        TileRenderer r = new TileRenderer();
+        Check.same("digest at first", r.digest(), 3 * 255 * (256 * 257 / 2));
+        Check.same("hits at first", r.hits(), 0);
+        Check.same("BAD", TileRenderer.BAD, -1);
+    }
+
+    private static void newCornersAndPattern() {
+        TileRenderer r = new TileRenderer();
+        for (int t = 0; t < 216; t++) {
+            Check.same("covered(" + t + ") at first", r.covered(t), 0);
+        }
+        for (int k = 0; k < 6; k++) {
+            TileRenderer s = new TileRenderer();
+            int p = (k + 1) % 6;
+            int q = (k + 2) % 6;
+            s.corner(p, Scene.place(256, 0), 255, 0xFFFFFF);
+            s.corner(q, Scene.place(0, 256), 255, 0xFFFFFF);
+            Check.same("covered with a new corner at (0, 0)", s.covered(Scene.triangle(k, p, q)), 120);
+            s.draw(Scene.triangle(k, p, q));
+            Check.same("hits by the rules at first", s.hits(), 120);
+            Check.same("depth near a new corner", s.depth(0, 0), 15);
+            Check.same("colour near a new corner", s.colour(0, 0), 0x0F0F0F);
+            Check.same("mark by the rules at first", s.mark(0, 0), 0);
+            s.rule(7, 1);
+            s.rule(0, 1);
+            s.draw(Scene.triangle(k, p, q));
+            Check.same("colour by the new pattern", s.colour(5, 5), 0);
+        }
+    }
+
+    private static void clear() {
+        int[][] ways = {{0, 0, 0}, {0xFFFFFF, 255, 15}, {0x123456, 77, 9}};
+        for (int[] way : ways) {
+            for (int seed = 0; seed < 2; seed++) {
+                TileRenderer r = Scene.busy();
+                int hits = r.hits();
+                r.window(Scene.box(9, 2, 9, 2));
+                r.rule(0, 0);
+                Check.same("clear", r.clear(way[0], way[1], way[2]), 0);
+                Check.same("hits after clear", r.hits(), hits);
+                Check.same("depth test after clear", r.rule(0, 0), 0);
+                Check.same("sign after clear", r.rule(5, 0), 9);
+                // A busy object has had its calls; digest tells of all its pixels.
+                int one = way[0] + 3 * way[1] + 7 * way[2];
+                Check.same("digest after clear", r.digest(), one * (256 * 257 / 2));
+                TileRenderer s = new TileRenderer();
+                s.clear(way[0], way[1], way[2]);
+                everyPixel(s, way[0], way[1], way[2], seed);
+            }
+        }
+    }
+
+    private static void clearRefuses() {
+        Scene.changesNothing("a refused clear", r -> {
+            int[] far = {-1, Integer.MIN_VALUE, Integer.MAX_VALUE};
+            for (int f : far) {
+                Check.same("colour " + f, r.clear(f, 1, 1), -1);
+                Check.same("depth " + f, r.clear(1, f, 1), -1);
+                Check.same("mark " + f, r.clear(1, 1, f), -1);
+            }
+            Check.same("colour 16777216", r.clear(16777216, 1, 1), -1);
+            Check.same("depth 256", r.clear(1, 256, 1), -1);
+            Check.same("mark 16", r.clear(1, 1, 16), -1);
+        });
+    }
+
+    /** One pixel is drawn at a time, so that each question is seen to tell of just that pixel. */
+    private static void questionsAboutPixels() {
+        int[][] pixels = {{0, 0}, {15, 0}, {0, 15}, {15, 15}, {3, 12}, {12, 3}};
+        for (int[] xy : pixels) {
+            TileRenderer r = Scene.squared(33, 0xABCDEF);
+            r.window(Scene.box(xy[0], xy[0], xy[1], xy[1]));
+            r.rule(4, 1);
+            r.rule(5, 6);
+            Scene.drawSquare(r);
+            for (int k = 0; k < 16; k++) {
+                boolean row = k == xy[0];
+                Check.same("colour in the row", r.colour(k, xy[1]), row ? 0xABCDEF : 0);
+                Check.same("depth in the row", r.depth(k, xy[1]), row ? 33 : 255);
+                Check.same("mark in the row", r.mark(k, xy[1]), row ? 6 : 0);
+                boolean column = k == xy[1];
+                Check.same("colour in the column", r.colour(xy[0], k), column ? 0xABCDEF : 0);
+                Check.same("depth in the column", r.depth(xy[0], k), column ? 33 : 255);
+                Check.same("mark in the column", r.mark(xy[0], k), column ? 6 : 0);
+            }
+            int weight = 16 * xy[1] + xy[0] + 1;
+            int due = 765 * (256 * 257 / 2) + weight * (0xABCDEF + 3 * 33 + 7 * 6 - 765);
+            Check.same("digest with one pixel", r.digest(), due);
+        }
+    }
+
+    private static void questionsRefuse() {
+        Scene.changesNothing("a refused question", r -> {
+            for (int far : FAR) {
+                Check.same("colour x " + far, r.colour(far, 4), -1);
+                Check.same("colour y " + far, r.colour(4, far), -1);
+                Check.same("depth x " + far, r.depth(far, 4), -1);
+                Check.same("depth y " + far, r.depth(4, far), -1);
+                Check.same("mark x " + far, r.mark(far, 4), -1);
+                Check.same("mark y " + far, r.mark(4, far), -1);
+            }
+        });
+    }
+
+    private static void digest() {
+        TileRenderer r = new TileRenderer();
+        r.clear(0, 0, 0);
+        Check.same("digest of nothing", r.digest(), 0);
+        r.clear(1, 0, 0);
+        Check.same("digest of colours", r.digest(), 32896);
+        r.clear(0, 1, 0);
+        Check.same("digest of depths", r.digest(), 3 * 32896);
+        r.clear(0, 0, 1);
+        Check.same("digest of marks", r.digest(), 7 * 32896);
+    }
+
+    private static void digestWraps() {
+        TileRenderer r = new TileRenderer();
+        r.clear(16777215, 255, 15);
+        long sum = 32896L * (16777215 + 3 * 255 + 7 * 15);
+        Check.same("digest that wraps", r.digest(), (int) sum);
+        Check.isTrue("the sum is beyond an int", sum > Integer.MAX_VALUE);
+    }
+
+    private static void hits() {
+        TileRenderer r = Scene.squared(9, 1);
+        r.draw(Scene.UPPER);
+        Check.same("hits of one half", r.hits(), 120);
+        r.draw(Scene.UPPER);
+        Check.same("hits where the depth test fails", r.hits(), 120);
+        r.draw(Scene.LOWER);
+        Check.same("hits of both halves", r.hits(), 256);
+        r.rule(0, 1);
+        r.rule(2, 4);
+        r.rule(1, 0);
+        Scene.drawSquare(r);
+        Check.same("hits that change nothing else", r.hits(), 512);
+        r.clear(0, 255, 0);
+        Check.same("hits after clear", r.hits(), 512);
+        r.reset();
+        Check.same("hits after reset", r.hits(), 512);
+    }
+
+    private static void questionsChangeNothing() {
+        Scene.changesNothing("a question", r -> {
+            for (int k = 0; k < 16; k++) {
+                r.colour(k, 15 - k);
+                r.depth(k, k);
+                r.mark(15 - k, k);
+            }
+            r.digest();
+            r.hits();
+            for (int t = 0; t < 216; t += 5) {
+                r.covered(t);
+            }
+        });
+    }
+
+    private static void objectsAreApart() {
+        TileRenderer r = Scene.busy();
+        Scene.probe(Scene.busy());
+        Check.isTrue("an object does not touch another", Scene.probe(r).equals(Scene.probe(Scene.busy())));
+        Check.same("hits of a new object after others", new TileRenderer().hits(), 0);
+    }
+}

@@ -1,0 +1,103 @@
+import java.util.ArrayList;
+import java.util.List;
+import java.util.function.Consumer;
+
+/** Codes of arguments, and objects that are ready for a test. */
+final class Scene {
+    static final int WHITE = 0xFFFFFF;
+    /** The corners 0, 1, 2 and 1, 3, 2 of a squared scene: the two halves of the picture. */
+    static final int UPPER = triangle(0, 1, 2);
+    static final int LOWER = triangle(1, 3, 2);
+
+    private Scene() {
+    }
+
+    static int place(int x, int y) {
+        return 384 * (y + 64) + x + 64;
+    }
+
+    static int triangle(int a, int b, int c) {
+        return 36 * a + 6 * b + c;
+    }
+
+    static int box(int left, int right, int top, int bottom) {
+        return 4096 * left + 256 * right + 16 * top + bottom;
+    }
+
+    /** Corners 0 .. 3 at the picture's four corners, all with one depth and colour. */
+    static TileRenderer squared(int depth, int colour) {
+        TileRenderer r = new TileRenderer();
+        square(r, depth, colour);
+        return r;
+    }
+
+    static void square(TileRenderer r, int depth, int colour) {
+        r.corner(0, place(0, 0), depth, colour);
+        r.corner(1, place(256, 0), depth, colour);
+        r.corner(2, place(0, 256), depth, colour);
+        r.corner(3, place(256, 256), depth, colour);
+    }
+
+    static void drawSquare(TileRenderer r) {
+        r.draw(UPPER);
+        r.draw(LOWER);
+    }
+
+    /** An object in which nothing is as at first, so that any change of it shows in a probe. */
+    static TileRenderer busy() {
+        TileRenderer r = new TileRenderer();
+        r.clear(0x405060, 200, 3);
+        int[][] places = {{-20, -30}, {270, 10}, {30, 280}, {260, 250}, {120, -60}, {130, 319}};
+        for (int k = 0; k < 6; k++) {
+            r.corner(k, place(places[k][0], places[k][1]), 40 + 25 * k, 0xFFE0C0 - 0x180F21 * k);
+            r.aim(k, 21 * k, 127 - 23 * k);
+        }
+        for (int k = 0; k < 64; k++) {
+            r.cell(k % 8, k / 8, 0xFFFFFF - 0x020103 * k);
+        }
+        r.window(box(1, 14, 2, 13));
+        r.rule(0, 3);
+        r.rule(2, 2);
+        r.rule(3, 2);
+        r.rule(4, 2);
+        r.rule(5, 9);
+        r.rule(7, 1);
+        r.draw(triangle(0, 1, 2));
+        r.rule(1, 0);
+        return r;
+    }
+
+    /** Answers that tell all of an object's state: picture, corners, pattern, rules and hits. */
+    static List<Integer> probe(TileRenderer r) {
+        List<Integer> answers = new ArrayList<>();
+        answers.add(r.digest());
+        answers.add(r.hits());
+        int[] triangles = {triangle(0, 1, 2), triangle(3, 2, 1), triangle(0, 4, 5), triangle(5, 4, 1),
+            triangle(4, 3, 2), triangle(0, 1, 5)};
+        for (int t : triangles) {
+            answers.add(r.covered(t));
+            answers.add(r.draw(t));
+            answers.add(r.digest());
+            answers.add(r.hits());
+        }
+        for (int k = 0; k < 16; k++) {
+            answers.add(r.colour(k, 5 * k % 16));
+            answers.add(r.depth(k, 5 * k % 16));
+            answers.add(r.mark(k, 5 * k % 16));
+        }
+        for (int k = 0; k < 64; k++) {
+            answers.add(r.cell(k % 8, k / 8, 0));
+        }
+        for (int what = 0; what < 8; what++) {
+            answers.add(r.rule(what, 0));
+        }
+        return answers;
+    }
+
+    /** Holds if a busy object answers everything afterwards as if the calls had not been made. */
+    static void changesNothing(String what, Consumer<TileRenderer> calls) {
+        TileRenderer touched = busy();
+        calls.accept(touched);
+        Check.isTrue(what + " changes nothing", probe(touched).equals(probe(busy())));
+    }
+}

@@ -1,0 +1,307 @@
+/** Promises 2 to 7 and 10: what sets corners, pattern and rules. */
+public final class SettingsTest {
+    private static final int[] FAR = {-1, Integer.MIN_VALUE, Integer.MAX_VALUE};
+
+    public static void main(String[] args) {
+        corner();
+        cornerRefuses();
+        cornerKeepsAim();
+        aim();
+        aimRefuses();
+        cell();
+        cellRefuses();
+        grab();
+        grabRefuses();
+        window();
+        windowRefuses();
+        rule();
+        ruleRefuses();
+        reset();
+        Check.end();
+    }
+
+    private static void corner() {
+        for (int k = 0; k < 6; k++) {
+            TileRenderer r = new TileRenderer();
+            int p = (k + 1) % 6;
+            int q = (k + 2) % 6;
+            Check.same("corner", r.corner(k, Scene.place(0, 0), 17, 0x123456), 0);
+            Check.same("corner", r.corner(p, Scene.place(256, 0), 17, 0x123456), 0);
+            Check.same("corner", r.corner(q, Scene.place(0, 256), 17, 0x123456), 0);
+            Check.same("draw", r.draw(Scene.triangle(k, p, q)), 0);
+            Check.same("hits of corner " + k, r.hits(), 120);
+            Check.same("colour of corner " + k, r.colour(3, 4), 0x123456);
+            Check.same("depth of corner " + k, r.depth(3, 4), 17);
+        }
+        TileRenderer r = new TileRenderer();
+        Check.same("first place", r.corner(0, 0, 0, 0), 0);
+        Check.same("end of the first row", r.corner(1, 383, 255, 0xFFFFFF), 0);
+        Check.same("last place", r.corner(2, 147455, 255, 0xFFFFFF), 0);
+        // (-64, -64), (319, -64), (319, 319): the half above the diagonal; on
+        // the diagonal the edge goes up from C to A, so its pixels are covered.
+        Check.same("covered by the greatest triangle", r.covered(Scene.triangle(0, 1, 2)), 136);
+        Check.same("its other half", r.corner(1, 383 * 384, 255, 0), 0);
+        Check.same("covered by its other half", r.covered(Scene.triangle(0, 2, 1)), 120);
+    }
+
+    private static void cornerRefuses() {
+        Scene.changesNothing("a refused corner", r -> {
+            for (int far : FAR) {
+                Check.same("corner " + far, r.corner(far, 70000, 1, 1), -1);
+                Check.same("place " + far, r.corner(0, far, 1, 1), -1);
+                Check.same("depth " + far, r.corner(0, 70000, far, 1), -1);
+                Check.same("colour " + far, r.corner(0, 70000, 1, far), -1);
+            }
+            Check.same("corner 6", r.corner(6, 70000, 1, 1), -1);
+            Check.same("place 147456", r.corner(1, 147456, 1, 1), -1);
+            Check.same("depth 256", r.corner(2, 70000, 256, 1), -1);
+            Check.same("colour 16777216", r.corner(3, 70000, 1, 16777216), -1);
+        });
+    }
+
+    private static void cornerKeepsAim() {
+        TileRenderer r = Scene.squared(1, Scene.WHITE);
+        for (int k = 0; k < 4; k++) {
+            r.aim(k, 40, 70);
+        }
+        r.cell(2, 4, 0x334455);
+        r.rule(7, 1);
+        Scene.square(r, 1, Scene.WHITE);
+        Scene.drawSquare(r);
+        Check.same("aims after corner", r.colour(9, 9), 0x334455);
+    }
+
+    private static void aim() {
+        int[][] aims = {{0, 0}, {15, 16}, {16, 15}, {127, 0}, {0, 127}, {127, 127}, {111, 112}};
+        for (int[] uv : aims) {
+            TileRenderer r = Scene.squared(1, Scene.WHITE);
+            for (int k = 0; k < 64; k++) {
+                r.cell(k % 8, k / 8, 1000 + k);
+            }
+            for (int k = 0; k < 4; k++) {
+                Check.same("aim", r.aim(k, uv[0], uv[1]), 0);
+            }
+            r.rule(7, 1);
+            Scene.drawSquare(r);
+            int due = 1000 + uv[1] / 16 * 8 + uv[0] / 16;
+            Check.same("cell at " + uv[0] + ", " + uv[1], r.colour(2, 2), due);
+            Check.same("cell at " + uv[0] + ", " + uv[1], r.colour(13, 12), due);
+        }
+        TileRenderer r = Scene.squared(1, Scene.WHITE);
+        for (int k = 0; k < 64; k++) {
+            r.cell(k % 8, k / 8, 1000 + k);
+        }
+        r.aim(1, 127, 0);
+        r.aim(2, 0, 127);
+        r.rule(7, 1);
+        r.draw(Scene.UPPER);
+        // U is MX * 127 / 256 and V is MY * 127 / 256.
+        Check.same("U and V between corners", r.colour(2, 2), 1000 + 9);
+        Check.same("U and V between corners", r.colour(14, 0), 1000 + 7);
+        Check.same("U and V between corners", r.colour(5, 9), 1000 + 4 * 8 + 2);
+        Check.same("both corners 4 and 5", r.aim(4, 1, 2) + r.aim(5, 127, 127), 0);
+    }
+
+    private static void aimRefuses() {
+        Scene.changesNothing("a refused aim", r -> {
+            for (int far : FAR) {
+                Check.same("corner " + far, r.aim(far, 64, 64), -1);
+                Check.same("u " + far, r.aim(0, far, 64), -1);
+                Check.same("v " + far, r.aim(0, 64, far), -1);
+            }
+            Check.same("corner 6", r.aim(6, 64, 64), -1);
+            Check.same("u 128", r.aim(1, 128, 64), -1);
+            Check.same("v 128", r.aim(2, 64, 128), -1);
+        });
+    }
+
+    private static void cell() {
+        TileRenderer r = new TileRenderer();
+        for (int k = 0; k < 64; k++) {
+            Check.same("cell at first", r.cell(k % 8, k / 8, 262143 * k), 0);
+        }
+        for (int k = 0; k < 64; k++) {
+            Check.same("cell before", r.cell(k % 8, k / 8, Scene.WHITE), 262143 * k);
+        }
+        Check.same("cell before", r.cell(7, 0, 0), Scene.WHITE);
+        Check.same("cell before", r.cell(0, 7, 1), Scene.WHITE);
+        Check.same("cell before", r.cell(7, 0, 2), 0);
+    }
+
+    private static void cellRefuses() {
+        Scene.changesNothing("a refused cell", r -> {
+            for (int far : FAR) {
+                Check.same("u " + far, r.cell(far, 3, 1), -1);
+                Check.same("v " + far, r.cell(3, far, 1), -1);
+                Check.same("colour " + far, r.cell(3, 3, far), -1);
+            }
+            Check.same("u 8", r.cell(8, 3, 1), -1);
+            Check.same("v 8", r.cell(3, 8, 1), -1);
+            Check.same("colour 16777216", r.cell(3, 3, 16777216), -1);
+        });
+    }
+
+    /** A picture in which no two pixels in a row or column are alike. */
+    private static TileRenderer slanted() {
+        TileRenderer r = new TileRenderer();
+        r.corner(0, Scene.place(0, 0), 1, 0);
+        r.corner(1, Scene.place(256, 0), 1, 0xFF0000);
+        r.corner(2, Scene.place(0, 256), 1, 0x00FF00);
+        r.corner(3, Scene.place(256, 256), 1, 0xFFFF00);
+        Scene.drawSquare(r);
+        return r;
+    }
+
+    private static void grab() {
+        int[][] places = {{0, 0}, {8, 8}, {0, 8}, {8, 0}, {3, 5}};
+        for (int[] xy : places) {
+            TileRenderer r = slanted();
+            int digest = r.digest();
+            int hits = r.hits();
+            Check.same("grab", r.grab(xy[0], xy[1]), 0);
+            Check.same("digest after grab", r.digest(), digest);
+            Check.same("hits after grab", r.hits(), hits);
+            for (int k = 0; k < 64; k++) {
+                int due = r.colour(xy[0] + k % 8, xy[1] + k / 8);
+                Check.same("grabbed cell " + k, r.cell(k % 8, k / 8, 0), due);
+            }
+        }
+        TileRenderer r = slanted();
+        int due = r.colour(4, 4);
+        r.grab(0, 0);
+        r.clear(5, 5, 5);
+        Check.same("a cell after the picture changed", r.cell(4, 4, 0), due);
+    }
+
+    private static void grabRefuses() {
+        Scene.changesNothing("a refused grab", r -> {
+            for (int far : FAR) {
+                Check.same("x " + far, r.grab(far, 2), -1);
+                Check.same("y " + far, r.grab(2, far), -1);
+            }
+            Check.same("x 9", r.grab(9, 2), -1);
+            Check.same("y 9", r.grab(2, 9), -1);
+        });
+    }
+
+    private static void window() {
+        windowHits(0, 15, 0, 15, 256);
+        windowHits(0, 0, 0, 0, 1);
+        windowHits(15, 15, 15, 15, 1);
+        windowHits(2, 6, 9, 11, 15);
+        windowHits(9, 11, 2, 6, 15);
+        windowHits(6, 2, 0, 15, 0);
+        windowHits(0, 15, 6, 2, 0);
+        windowHits(15, 0, 15, 0, 0);
+        windowHits(0, 15, 4, 4, 16);
+        TileRenderer r = Scene.squared(7, 0x010203);
+        r.window(Scene.box(2, 6, 9, 11));
+        Scene.drawSquare(r);
+        for (int y = 0; y < 16; y++) {
+            for (int x = 0; x < 16; x++) {
+                boolean in = x >= 2 && x <= 6 && y >= 9 && y <= 11;
+                Check.same("colour with a window", r.colour(x, y), in ? 0x010203 : 0);
+            }
+        }
+    }
+
+    private static void windowHits(int left, int right, int top, int bottom, int due) {
+        TileRenderer r = Scene.squared(7, 1);
+        Check.same("window", r.window(Scene.box(left, right, top, bottom)), 0);
+        Scene.drawSquare(r);
+        Check.same("hits in " + left + " " + right + " " + top + " " + bottom, r.hits(), due);
+    }
+
+    private static void windowRefuses() {
+        Scene.changesNothing("a refused window", r -> {
+            for (int far : FAR) {
+                Check.same("box " + far, r.window(far), -1);
+            }
+            Check.same("box 65536", r.window(65536), -1);
+        });
+    }
+
+    private static void rule() {
+        int[] first = {2, 1, 0, 0, 0, 0, 0, 0};
+        int[] greatest = {3, 1, 4, 2, 3, 15, 1, 1};
+        TileRenderer r = new TileRenderer();
+        for (int what = 0; what < 8; what++) {
+            int before = first[what];
+            for (int value = greatest[what]; value >= 0; value--) {
+                Check.same("rule " + what + " to " + value, r.rule(what, value), before);
+                before = value;
+            }
+            Check.same("rule " + what + " again", r.rule(what, greatest[what]), 0);
+        }
+        for (int what = 0; what < 8; what++) {
+            Check.same("rule " + what + " is its own", r.rule(what, 0), greatest[what]);
+        }
+    }
+
+    private static void ruleRefuses() {
+        int[] greatest = {3, 1, 4, 2, 3, 15, 1, 1};
+        Scene.changesNothing("a refused rule", r -> {
+            for (int far : FAR) {
+                Check.same("what " + far, r.rule(far, 0), -1);
+                for (int what = 0; what < 8; what++) {
+                    Check.same("rule " + what + " to " + far, r.rule(what, far), -1);
+                }
+            }
+            Check.same("what 8", r.rule(8, 0), -1);
+            for (int what = 0; what < 8; what++) {
+                Check.same("rule " + what + " too great", r.rule(what, greatest[what] + 1), -1);
+            }
+        });
+    }
+
+    private static void reset() {
+        TileRenderer r = Scene.busy();
+        int digest = r.digest();
+        int hits = r.hits();
+        int colour = r.colour(7, 7);
+        int depth = r.depth(7, 7);
+        int mark = r.mark(7, 7);
+        r.rule(6, 1);
+        r.reset();
+        Check.same("digest after reset", r.digest(), digest);
+        Check.same("hits after reset", r.hits(), hits);
+        Check.same("colour after reset", r.colour(7, 7), colour);
+        Check.same("depth after reset", r.depth(7, 7), depth);
+        Check.same("mark after reset", r.mark(7, 7), mark);
+        Check.same("covered after reset", r.covered(Scene.triangle(0, 1, 2)), 0);
+        r.clear(0, 255, 0);
+        for (int k = 0; k < 64; k++) {
+            Check.same("cell after reset", r.cell(k % 8, k / 8, 0), 0);
+        }
+        int[] first = {2, 1, 0, 0, 0, 0, 0, 0};
+        for (int what = 0; what < 8; what++) {
+            Check.same("rule " + what + " after reset", r.rule(what, first[what]), first[what]);
+        }
+        Scene.square(r, 5, Scene.WHITE);
+        Scene.drawSquare(r);
+        Check.same("hits with the window after reset", r.hits() - hits, 256);
+        resetCorners();
+    }
+
+    /** Each corner by itself is at (0, 0) with depth, colour, U and V 0 after a reset. */
+    private static void resetCorners() {
+        for (int k = 0; k < 6; k++) {
+            TileRenderer r = Scene.busy();
+            r.reset();
+            int p = (k + 1) % 6;
+            int q = (k + 2) % 6;
+            r.corner(p, Scene.place(256, 0), 255, 0xFFFFFF);
+            r.corner(q, Scene.place(0, 256), 255, 0xFFFFFF);
+            r.clear(0, 255, 0);
+            r.cell(0, 0, 0x0000FF);
+            r.rule(7, 1);
+            r.draw(Scene.triangle(k, p, q));
+            // Of 256 parts, 16 come from the two corners with 255; at the others 224.
+            Check.same("depth with corner " + k + " after reset", r.depth(0, 0), 15);
+            Check.same("colour with corner " + k + " after reset", r.colour(0, 0), 15);
+            // U and V are 0 everywhere, so every pixel has cell (0, 0).
+            Check.same("colour with corner " + k + " after reset", r.colour(13, 0), 223);
+            Check.same("colour with corner " + k + " after reset", r.colour(0, 13), 223);
+        }
+    }
+}
