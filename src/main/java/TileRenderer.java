@@ -51,10 +51,7 @@ public final class TileRenderer {
 
     public TileRenderer() {
         fillPicture(0, FULL, 0);
-        startCorners();
-        startPattern();
-        startRules();
-        hitCount = 0;
+        startSettings();
     }
 
     public int corner(int corner, int place, int depth, int colour) {
@@ -136,9 +133,10 @@ public final class TileRenderer {
         int b = corners / 6 % 6;
         int c = corners % 6;
         int area = areaOf(a, b, c);
-        if (isLeftOut(area)) {
+        if (isNotDrawn(area)) {
             return 0;
         }
+        // Seen from behind, B and C change places, so that the area is above 0.
         if (area > 0) {
             drawFromFront(a, b, c);
         } else {
@@ -156,9 +154,7 @@ public final class TileRenderer {
     }
 
     public void reset() {
-        startCorners();
-        startPattern();
-        startRules();
+        startSettings();
     }
 
     public int colour(int x, int y) {
@@ -202,7 +198,7 @@ public final class TileRenderer {
         int b = corners / 6 % 6;
         int c = corners % 6;
         int area = areaOf(a, b, c);
-        if (isLeftOut(area)) {
+        if (isNotDrawn(area)) {
             return 0;
         }
         return area > 0 ? countFromFront(a, b, c) : countFromFront(a, c, b);
@@ -238,6 +234,12 @@ public final class TileRenderer {
             pixelDepths[pixel] = depth;
             pixelMarks[pixel] = mark;
         }
+    }
+
+    private void startSettings() {
+        startCorners();
+        startPattern();
+        startRules();
     }
 
     private void startCorners() {
@@ -290,7 +292,7 @@ public final class TileRenderer {
         return sideOf(a, b, cornerX[c], cornerY[c]);
     }
 
-    private boolean isLeftOut(int area) {
+    private boolean isNotDrawn(int area) {
         return area == 0 || (area < 0 && rules[BEHIND_LEFT_OUT] == 1);
     }
 

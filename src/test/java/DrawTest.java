@@ -68,6 +68,10 @@ public final class DrawTest {
         hitsJust("corner at the upper right", new int[] {8, 8, 40, 8, 40, 40}, 0, 1, 17);
         hitsJust("corner at the lower left", new int[] {8, 8, 8, 40, 40, 40}, 16);
         hitsJust("corner at the lower right", new int[] {40, 8, 40, 40, 8, 40}, 17);
+        hitsJust("an upper edge further down", new int[] {8, 200, 40, 200, 8, 232}, 192, 193, 208);
+        hitsJust("a lower edge further right", new int[] {200, 8, 200, 40, 232, 40}, 28);
+        hitsJust("the least area, at a middle", new int[] {8, 8, 9, 8, 8, 9}, 0);
+        hitsJust("the least area, ending at a middle", new int[] {8, 8, 7, 8, 8, 7});
         hitsJust("one middle inside", new int[] {7, 7, 11, 7, 7, 11}, 0);
         hitsJust("no middle inside", new int[] {9, 9, 23, 9, 9, 23});
         hitsJust("outside of the picture", new int[] {-64, -64, -1, -64, -64, -1});
@@ -128,7 +132,6 @@ public final class DrawTest {
         Check.same("covered from behind again", r.covered(behind), 120);
     }
 
-    /** With this triangle a number is ((256 - MX - MY) * pA + MX * pB + MY * pC) / 256. */
     private static TileRenderer slope() {
         TileRenderer r = new TileRenderer();
         r.corner(0, Scene.place(0, 0), 10, 0xC80A00);
@@ -137,20 +140,14 @@ public final class DrawTest {
         return r;
     }
 
-    private static int sloped(int x, int y, int pA, int pB, int pC) {
-        int mx = 16 * x + 8;
-        int my = 16 * y + 8;
-        return ((256 - mx - my) * pA + mx * pB + my * pC) / 256;
-    }
-
     private static void slopeIsDrawn(String what, TileRenderer r) {
         for (int y = 0; y < 15; y++) {
             for (int x = 0; x + y < 15; x++) {
-                int red = sloped(x, y, 0xC8, 0, 0x32);
-                int green = sloped(x, y, 0x0A, 0xFF, 0);
-                int blue = sloped(x, y, 0, 7, 0xFF);
+                int red = Scene.sloped(x, y, 0xC8, 0, 0x32);
+                int green = Scene.sloped(x, y, 0x0A, 0xFF, 0);
+                int blue = Scene.sloped(x, y, 0, 7, 0xFF);
                 Check.same(what + " colour", r.colour(x, y), 65536 * red + 256 * green + blue);
-                Check.same(what + " depth", r.depth(x, y), sloped(x, y, 10, 250, 100));
+                Check.same(what + " depth", r.depth(x, y), Scene.sloped(x, y, 10, 250, 100));
             }
         }
     }
@@ -299,7 +296,6 @@ public final class DrawTest {
                 }
             }
         }
-        Check.same("two odd numbers", mixed(2, 4, 3), 3);
     }
 
     private static void pattern() {

@@ -43,21 +43,23 @@ public final class PictureTest {
             Check.same("covered(" + t + ") at first", r.covered(t), 0);
         }
         for (int k = 0; k < 6; k++) {
-            TileRenderer s = new TileRenderer();
-            int p = (k + 1) % 6;
-            int q = (k + 2) % 6;
-            s.corner(p, Scene.place(256, 0), 255, 0xFFFFFF);
-            s.corner(q, Scene.place(0, 256), 255, 0xFFFFFF);
-            Check.same("covered with a new corner at (0, 0)", s.covered(Scene.triangle(k, p, q)), 120);
-            s.draw(Scene.triangle(k, p, q));
-            Check.same("hits by the rules at first", s.hits(), 120);
-            Check.same("depth near a new corner", s.depth(0, 0), 15);
-            Check.same("colour near a new corner", s.colour(0, 0), 0x0F0F0F);
-            Check.same("mark by the rules at first", s.mark(0, 0), 0);
-            s.rule(7, 1);
-            s.rule(0, 1);
-            s.draw(Scene.triangle(k, p, q));
-            Check.same("colour by the new pattern", s.colour(5, 5), 0);
+            Scene.cornerIsAtFirst("at first", new TileRenderer(), k);
+        }
+        TileRenderer s = Scene.squared(5, Scene.WHITE);
+        s.draw(Scene.UPPER);
+        Check.same("hits by the rules at first", s.hits(), 120);
+        Check.same("mark by the rules at first", s.mark(5, 5), 0);
+        Check.same("colour by the rules at first", s.colour(5, 5), Scene.WHITE);
+        Check.same("depth by the rules at first", s.depth(5, 5), 5);
+        s.draw(Scene.UPPER);
+        Check.same("hits by the depth test at first", s.hits(), 120);
+        s.draw(Scene.triangle(1, 2, 3));
+        Check.same("hits from behind at first", s.hits(), 256);
+        s.rule(7, 1);
+        s.rule(0, 1);
+        Scene.drawSquare(s);
+        for (int k = 0; k < 16; k++) {
+            Check.same("colour by the new pattern", s.colour(k, k), 0);
         }
     }
 

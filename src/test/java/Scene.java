@@ -43,6 +43,38 @@ final class Scene {
         r.draw(LOWER);
     }
 
+    /** A number in the upper half, whose weights are 256 times 256 - MX - MY, MX and MY. */
+    static int sloped(int x, int y, int pA, int pB, int pC) {
+        int mx = 16 * x + 8;
+        int my = 16 * y + 8;
+        return ((256 - mx - my) * pA + mx * pB + my * pC) / 256;
+    }
+
+    /** Draws with corner k as it is, and holds if its place, depth, colour, U and V are 0. */
+    static void cornerIsAtFirst(String when, TileRenderer r, int k) {
+        int p = (k + 1) % 6;
+        int q = (k + 2) % 6;
+        r.clear(0, 255, 0);
+        r.corner(p, place(256, 0), 255, WHITE);
+        r.corner(q, place(0, 256), 100, WHITE);
+        r.aim(p, 127, 127);
+        r.aim(q, 127, 127);
+        for (int n = 0; n < 64; n++) {
+            r.cell(n % 8, n / 8, 65536 * 36 * (n % 8) + 256 * 36 * (n / 8) + 255);
+        }
+        r.rule(7, 1);
+        r.draw(triangle(k, p, q));
+        for (int y = 0; y < 15; y++) {
+            for (int x = 0; x + y < 15; x++) {
+                String what = " at " + x + ", " + y + " with corner " + k + " " + when;
+                Check.same("depth" + what, r.depth(x, y), sloped(x, y, 0, 255, 100));
+                int s = sloped(x, y, 0, 255, 255);
+                int part = s * (36 * (sloped(x, y, 0, 127, 127) / 16)) / 255;
+                Check.same("colour" + what, r.colour(x, y), 65536 * part + 256 * part + s);
+            }
+        }
+    }
+
     /** An object in which nothing is as at first, so that any change of it shows in a probe. */
     static TileRenderer busy() {
         TileRenderer r = new TileRenderer();

@@ -194,6 +194,8 @@ public final class SettingsTest {
         windowHits(0, 15, 6, 2, 0);
         windowHits(15, 0, 15, 0, 0);
         windowHits(0, 15, 4, 4, 16);
+        windowHits(1, 0, 0, 0, 0);
+        windowHits(0, 0, 1, 0, 0);
         TileRenderer r = Scene.squared(7, 0x010203);
         r.window(Scene.box(2, 6, 9, 11));
         Scene.drawSquare(r);
@@ -283,25 +285,11 @@ public final class SettingsTest {
         resetCorners();
     }
 
-    /** Each corner by itself is at (0, 0) with depth, colour, U and V 0 after a reset. */
     private static void resetCorners() {
         for (int k = 0; k < 6; k++) {
             TileRenderer r = Scene.busy();
             r.reset();
-            int p = (k + 1) % 6;
-            int q = (k + 2) % 6;
-            r.corner(p, Scene.place(256, 0), 255, 0xFFFFFF);
-            r.corner(q, Scene.place(0, 256), 255, 0xFFFFFF);
-            r.clear(0, 255, 0);
-            r.cell(0, 0, 0x0000FF);
-            r.rule(7, 1);
-            r.draw(Scene.triangle(k, p, q));
-            // Of 256 parts, 16 come from the two corners with 255; at the others 224.
-            Check.same("depth with corner " + k + " after reset", r.depth(0, 0), 15);
-            Check.same("colour with corner " + k + " after reset", r.colour(0, 0), 15);
-            // U and V are 0 everywhere, so every pixel has cell (0, 0).
-            Check.same("colour with corner " + k + " after reset", r.colour(13, 0), 223);
-            Check.same("colour with corner " + k + " after reset", r.colour(0, 13), 223);
+            Scene.cornerIsAtFirst("after reset", r, k);
         }
     }
 }
