@@ -2,6 +2,7 @@
 final class Check {
     private static int wrong = 0;
     private static int made = 0;
+    private static int sentences = 0;
 
     private Check() {
     }
@@ -22,8 +23,22 @@ final class Check {
         }
     }
 
+    /** Runs the test of one sentence, and names the sentence if it is broken. */
+    static void sentence(String where, String words, Runnable test) {
+        int wrongBefore = wrong;
+        int madeBefore = made;
+        sentences++;
+        test.run();
+        // A test that looks at nothing would hold for any program.
+        isTrue("something is checked", made > madeBefore);
+        if (wrong > wrongBefore) {
+            System.out.println("BROKEN: " + where + ": " + words);
+        }
+    }
+
     static void end() {
-        System.out.println(made + " checks, " + wrong + " wrong");
+        String tested = sentences == 0 ? "" : sentences + " sentences, ";
+        System.out.println(tested + made + " checks, " + wrong + " wrong");
         if (wrong != 0 || made == 0) {
             System.exit(1);
         }

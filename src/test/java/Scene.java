@@ -1,13 +1,11 @@
-import java.util.ArrayList;
-import java.util.List;
-import java.util.function.Consumer;
-
 /** Codes of arguments, and objects that are ready for a test. */
 final class Scene {
     static final int WHITE = 0xFFFFFF;
     /** The corners 0, 1, 2 and 1, 3, 2 of a squared scene: the two halves of the picture. */
     static final int UPPER = triangle(0, 1, 2);
     static final int LOWER = triangle(1, 3, 2);
+
+    private static final int[][] BUSY_PLACES = {{-20, -30}, {270, 10}, {30, 280}, {260, 250}, {120, -60}, {130, 310}};
 
     private Scene() {
     }
@@ -43,6 +41,17 @@ final class Scene {
         r.draw(LOWER);
     }
 
+    /** A picture in which no two pixels in a row or column are alike. */
+    static TileRenderer slanted() {
+        TileRenderer r = new TileRenderer();
+        r.corner(0, place(0, 0), 1, 0);
+        r.corner(1, place(256, 0), 1, 0xFF0000);
+        r.corner(2, place(0, 256), 1, 0x00FF00);
+        r.corner(3, place(256, 256), 1, 0xFFFF00);
+        drawSquare(r);
+        return r;
+    }
+
     /** A number in the upper half, whose weights are 256 times 256 - MX - MY, MX and MY. */
     static int sloped(int x, int y, int pA, int pB, int pC) {
         int mx = 16 * x + 8;
@@ -75,61 +84,37 @@ final class Scene {
         }
     }
 
-    /** An object in which nothing is as at first, so that any change of it shows in a probe. */
+    /** Sets a corner of a busy object, with its numbers changed by what is told. */
+    static int busyCorner(TileRenderer r, int k, int place, int depth, int colour) {
+        int due = place(BUSY_PLACES[k][0], BUSY_PLACES[k][1]);
+        return r.corner(k, due + place, 40 + 25 * k + depth, 0xFFE0C0 - 0x180F21 * k + colour);
+    }
+
+    static int busyAim(TileRenderer r, int k, int u, int v) {
+        return r.aim(k, 21 * k + 5 + u, 120 - 23 * k + v);
+    }
+
+    /** An object in which nothing is as at first, after 91 calls. */
     static TileRenderer busy() {
         TileRenderer r = new TileRenderer();
         r.clear(0x405060, 200, 3);
-        int[][] places = {{-20, -30}, {270, 10}, {30, 280}, {260, 250}, {120, -60}, {130, 319}};
         for (int k = 0; k < 6; k++) {
-            r.corner(k, place(places[k][0], places[k][1]), 40 + 25 * k, 0xFFE0C0 - 0x180F21 * k);
-            r.aim(k, 21 * k, 127 - 23 * k);
+            busyCorner(r, k, 0, 0, 0);
+            busyAim(r, k, 0, 0);
         }
         for (int k = 0; k < 64; k++) {
             r.cell(k % 8, k / 8, 0xFFFFFF - 0x020103 * k);
         }
         r.window(box(1, 14, 2, 13));
-        r.rule(0, 3);
-        r.rule(2, 2);
-        r.rule(3, 2);
-        r.rule(4, 2);
-        r.rule(5, 9);
-        r.rule(7, 1);
-        r.draw(triangle(0, 1, 2));
-        r.rule(1, 0);
-        return r;
-    }
-
-    /** Answers that tell all of an object's state: picture, corners, pattern, rules and hits. */
-    static List<Integer> probe(TileRenderer r) {
-        List<Integer> answers = new ArrayList<>();
-        answers.add(r.digest());
-        answers.add(r.hits());
-        int[] triangles = {triangle(0, 1, 2), triangle(3, 2, 1), triangle(0, 4, 5), triangle(5, 4, 1),
-            triangle(4, 3, 2), triangle(0, 1, 5)};
-        for (int t : triangles) {
-            answers.add(r.covered(t));
-            answers.add(r.draw(t));
-            answers.add(r.digest());
-            answers.add(r.hits());
-        }
-        for (int k = 0; k < 16; k++) {
-            answers.add(r.colour(k, 5 * k % 16));
-            answers.add(r.depth(k, 5 * k % 16));
-            answers.add(r.mark(k, 5 * k % 16));
-        }
-        for (int k = 0; k < 64; k++) {
-            answers.add(r.cell(k % 8, k / 8, 0));
-        }
+        int[] rules = {3, 1, 2, 2, 2, 9, 1, 1};
         for (int what = 0; what < 8; what++) {
-            answers.add(r.rule(what, 0));
+            r.rule(what, rules[what]);
         }
-        return answers;
-    }
-
-    /** Holds if a busy object answers everything afterwards as if the calls had not been made. */
-    static void changesNothing(String what, Consumer<TileRenderer> calls) {
-        TileRenderer touched = busy();
-        calls.accept(touched);
-        Check.isTrue(what + " changes nothing", probe(touched).equals(probe(busy())));
+        r.draw(triangle(0, 1, 2));
+        r.draw(triangle(1, 3, 2));
+        r.rule(1, 0);
+        r.rule(0, 1);
+        r.draw(triangle(0, 3, 5));
+        return r;
     }
 }

@@ -1,21 +1,13 @@
 /** Promises 2 to 7 and 10: what sets corners, pattern and rules. */
 public final class SettingsTest {
-    private static final int[] FAR = {-1, Integer.MIN_VALUE, Integer.MAX_VALUE};
-
     public static void main(String[] args) {
         corner();
-        cornerRefuses();
         cornerKeepsAim();
         aim();
-        aimRefuses();
         cell();
-        cellRefuses();
         grab();
-        grabRefuses();
         window();
-        windowRefuses();
         rule();
-        ruleRefuses();
         reset();
         Check.end();
     }
@@ -42,21 +34,6 @@ public final class SettingsTest {
         Check.same("covered by the greatest triangle", r.covered(Scene.triangle(0, 1, 2)), 136);
         Check.same("its other half", r.corner(1, 383 * 384, 255, 0), 0);
         Check.same("covered by its other half", r.covered(Scene.triangle(0, 2, 1)), 120);
-    }
-
-    private static void cornerRefuses() {
-        Scene.changesNothing("a refused corner", r -> {
-            for (int far : FAR) {
-                Check.same("corner " + far, r.corner(far, 70000, 1, 1), -1);
-                Check.same("place " + far, r.corner(0, far, 1, 1), -1);
-                Check.same("depth " + far, r.corner(0, 70000, far, 1), -1);
-                Check.same("colour " + far, r.corner(0, 70000, 1, far), -1);
-            }
-            Check.same("corner 6", r.corner(6, 70000, 1, 1), -1);
-            Check.same("place 147456", r.corner(1, 147456, 1, 1), -1);
-            Check.same("depth 256", r.corner(2, 70000, 256, 1), -1);
-            Check.same("colour 16777216", r.corner(3, 70000, 1, 16777216), -1);
-        });
     }
 
     private static void cornerKeepsAim() {
@@ -102,19 +79,6 @@ public final class SettingsTest {
         Check.same("both corners 4 and 5", r.aim(4, 1, 2) + r.aim(5, 127, 127), 0);
     }
 
-    private static void aimRefuses() {
-        Scene.changesNothing("a refused aim", r -> {
-            for (int far : FAR) {
-                Check.same("corner " + far, r.aim(far, 64, 64), -1);
-                Check.same("u " + far, r.aim(0, far, 64), -1);
-                Check.same("v " + far, r.aim(0, 64, far), -1);
-            }
-            Check.same("corner 6", r.aim(6, 64, 64), -1);
-            Check.same("u 128", r.aim(1, 128, 64), -1);
-            Check.same("v 128", r.aim(2, 64, 128), -1);
-        });
-    }
-
     private static void cell() {
         TileRenderer r = new TileRenderer();
         for (int k = 0; k < 64; k++) {
@@ -128,34 +92,10 @@ public final class SettingsTest {
         Check.same("cell before", r.cell(7, 0, 2), 0);
     }
 
-    private static void cellRefuses() {
-        Scene.changesNothing("a refused cell", r -> {
-            for (int far : FAR) {
-                Check.same("u " + far, r.cell(far, 3, 1), -1);
-                Check.same("v " + far, r.cell(3, far, 1), -1);
-                Check.same("colour " + far, r.cell(3, 3, far), -1);
-            }
-            Check.same("u 8", r.cell(8, 3, 1), -1);
-            Check.same("v 8", r.cell(3, 8, 1), -1);
-            Check.same("colour 16777216", r.cell(3, 3, 16777216), -1);
-        });
-    }
-
-    /** A picture in which no two pixels in a row or column are alike. */
-    private static TileRenderer slanted() {
-        TileRenderer r = new TileRenderer();
-        r.corner(0, Scene.place(0, 0), 1, 0);
-        r.corner(1, Scene.place(256, 0), 1, 0xFF0000);
-        r.corner(2, Scene.place(0, 256), 1, 0x00FF00);
-        r.corner(3, Scene.place(256, 256), 1, 0xFFFF00);
-        Scene.drawSquare(r);
-        return r;
-    }
-
     private static void grab() {
         int[][] places = {{0, 0}, {8, 8}, {0, 8}, {8, 0}, {3, 5}};
         for (int[] xy : places) {
-            TileRenderer r = slanted();
+            TileRenderer r = Scene.slanted();
             int digest = r.digest();
             int hits = r.hits();
             Check.same("grab", r.grab(xy[0], xy[1]), 0);
@@ -166,22 +106,11 @@ public final class SettingsTest {
                 Check.same("grabbed cell " + k, r.cell(k % 8, k / 8, 0), due);
             }
         }
-        TileRenderer r = slanted();
+        TileRenderer r = Scene.slanted();
         int due = r.colour(4, 4);
         r.grab(0, 0);
         r.clear(5, 5, 5);
         Check.same("a cell after the picture changed", r.cell(4, 4, 0), due);
-    }
-
-    private static void grabRefuses() {
-        Scene.changesNothing("a refused grab", r -> {
-            for (int far : FAR) {
-                Check.same("x " + far, r.grab(far, 2), -1);
-                Check.same("y " + far, r.grab(2, far), -1);
-            }
-            Check.same("x 9", r.grab(9, 2), -1);
-            Check.same("y 9", r.grab(2, 9), -1);
-        });
     }
 
     private static void window() {
@@ -214,15 +143,6 @@ public final class SettingsTest {
         Check.same("hits in " + left + " " + right + " " + top + " " + bottom, r.hits(), due);
     }
 
-    private static void windowRefuses() {
-        Scene.changesNothing("a refused window", r -> {
-            for (int far : FAR) {
-                Check.same("box " + far, r.window(far), -1);
-            }
-            Check.same("box 65536", r.window(65536), -1);
-        });
-    }
-
     private static void rule() {
         int[] first = {2, 1, 0, 0, 0, 0, 0, 0};
         int[] greatest = {3, 1, 4, 2, 3, 15, 1, 1};
@@ -238,22 +158,6 @@ public final class SettingsTest {
         for (int what = 0; what < 8; what++) {
             Check.same("rule " + what + " is its own", r.rule(what, 0), greatest[what]);
         }
-    }
-
-    private static void ruleRefuses() {
-        int[] greatest = {3, 1, 4, 2, 3, 15, 1, 1};
-        Scene.changesNothing("a refused rule", r -> {
-            for (int far : FAR) {
-                Check.same("what " + far, r.rule(far, 0), -1);
-                for (int what = 0; what < 8; what++) {
-                    Check.same("rule " + what + " to " + far, r.rule(what, far), -1);
-                }
-            }
-            Check.same("what 8", r.rule(8, 0), -1);
-            for (int what = 0; what < 8; what++) {
-                Check.same("rule " + what + " too great", r.rule(what, greatest[what] + 1), -1);
-            }
-        });
     }
 
     private static void reset() {
