@@ -28,7 +28,11 @@ public final class ArgumentBoundsTest {
         clear();
         questions();
         covered();
-        severalWrong();
+        Check.sentence("Terms", "A refused call (an answer below 0) changes nothing", ArgumentBoundsTest::oneWrong);
+        Check.sentence("Terms", "In every method the tests are made in the order named",
+            ArgumentBoundsTest::nothingButWrong);
+        Check.sentence("LANGUAGE.md, rule 7", "No call may ever throw or fail to end, for any arguments in any state",
+            ArgumentBoundsTest::anyArguments);
         Check.end();
     }
 
@@ -358,22 +362,69 @@ public final class ArgumentBoundsTest {
         });
     }
 
-    private static void severalWrong() {
-        Check.sentence("Terms", "In every method the tests are made in the order named", () -> {
-            int[] wrong = {-1, 16777216, Integer.MIN_VALUE, Integer.MAX_VALUE};
+    /** Every argument of every method is wrong once, all on one object. */
+    private static void oneWrong() {
+        int[] wrong = {-1, COLOUR + 1};
+        State.unchanged("a row of refused calls", r -> {
+            int answers = 0;
             for (int w : wrong) {
-                State.unchanged("a call with nothing but " + w, r -> {
-                    Check.same("corner", r.corner(w, w, w, w), TileRenderer.BAD);
-                    Check.same("aim", r.aim(w, w, w), TileRenderer.BAD);
-                    Check.same("cell", r.cell(w, w, w), TileRenderer.BAD);
-                    Check.same("grab", r.grab(w, w), TileRenderer.BAD);
-                    Check.same("rule", r.rule(w, w), TileRenderer.BAD);
-                    Check.same("clear", r.clear(w, w, w), TileRenderer.BAD);
-                    Check.same("colour", r.colour(w, w), TileRenderer.BAD);
-                    Check.same("depth", r.depth(w, w), TileRenderer.BAD);
-                    Check.same("mark", r.mark(w, w), TileRenderer.BAD);
-                });
+                answers += r.corner(w, PLACE, 1, 1) + r.corner(0, w, 1, 1) + r.corner(0, PLACE, w, 1)
+                    + r.corner(0, PLACE, 1, w) + r.aim(w, 64, 64) + r.aim(0, w, 64) + r.aim(0, 64, w)
+                    + r.cell(w, 3, 1) + r.cell(3, w, 1) + r.cell(3, 3, w) + r.grab(w, 3) + r.grab(3, w)
+                    + r.window(w) + r.rule(w, 0) + r.rule(0, w) + r.draw(w) + r.clear(w, 1, 1) + r.clear(1, w, 1)
+                    + r.clear(1, 1, w) + r.colour(w, 3) + r.colour(3, w) + r.depth(w, 3) + r.depth(3, w)
+                    + r.mark(w, 3) + r.mark(3, w) + r.covered(w);
             }
+            Check.same("the sum of 52 answers", answers, 52 * TileRenderer.BAD);
         });
+    }
+
+    /** Whichever test is made first, the answer is the same. */
+    private static void nothingButWrong() {
+        int[] wrong = {-1, COLOUR + 1, Integer.MIN_VALUE, Integer.MAX_VALUE};
+        for (int w : wrong) {
+            State.unchanged("a call with nothing but " + w, r -> {
+                Check.same("corner", r.corner(w, w, w, w), TileRenderer.BAD);
+                Check.same("aim", r.aim(w, w, w), TileRenderer.BAD);
+                Check.same("cell", r.cell(w, w, w), TileRenderer.BAD);
+                Check.same("grab", r.grab(w, w), TileRenderer.BAD);
+                Check.same("rule", r.rule(w, w), TileRenderer.BAD);
+                Check.same("clear", r.clear(w, w, w), TileRenderer.BAD);
+                Check.same("colour", r.colour(w, w), TileRenderer.BAD);
+                Check.same("depth", r.depth(w, w), TileRenderer.BAD);
+                Check.same("mark", r.mark(w, w), TileRenderer.BAD);
+            });
+        }
+    }
+
+    /** Far more than 512 calls on one object: the answers are free, but there must be one. */
+    private static void anyArguments() {
+        int[] some = {Integer.MIN_VALUE, -16777216, -1, 0, 1, 5, 8, 15, 16, 215, 255, 65536, 147455, COLOUR,
+            Integer.MAX_VALUE};
+        TileRenderer r = Scene.busy();
+        int calls = 0;
+        for (int a : some) {
+            for (int b : some) {
+                for (int c : some) {
+                    r.corner(a, b, c, a);
+                    r.aim(a, b, c);
+                    r.cell(a, b, c);
+                    r.clear(a, b, c);
+                    r.rule(a, b);
+                    r.grab(b, c);
+                    r.window(c);
+                    r.draw(c);
+                    r.covered(b);
+                    r.colour(a, c);
+                    r.depth(a, c);
+                    r.mark(a, c);
+                    r.digest();
+                    r.hits();
+                    calls += 14;
+                }
+                r.reset();
+            }
+        }
+        Check.same("calls that came back", calls, 14 * 15 * 15 * 15);
     }
 }

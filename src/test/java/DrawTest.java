@@ -1,23 +1,17 @@
-/** Promises 8, 16 and 17: what a triangle covers, and how it is drawn. */
+/** Promises 8 and 16 in ordinary use: what a triangle covers, and how it is drawn. */
 public final class DrawTest {
     public static void main(String[] args) {
         halves();
         edgesThroughMiddles();
         fanHitsEachPixelOnce();
-        noArea();
         seenFromBehind();
         numbersAtPixels();
         numbersFromBehind();
         cornersAtTheTimeOfDrawing();
-        depthTests();
         depthsWritten();
-        markTests();
-        markChanges();
-        failedTestsChangeNothing();
         mixings();
         pattern();
         patternWithMixings();
-        coveredIgnoresTheWindow();
         Check.end();
     }
 
@@ -95,22 +89,6 @@ public final class DrawTest {
         }
     }
 
-    private static void noArea() {
-        TileRenderer r = Scene.squared(5, 1);
-        r.corner(4, Scene.place(128, 128), 5, 1);
-        r.rule(0, 1);
-        int[] codes = {Scene.triangle(0, 0, 0), Scene.triangle(0, 1, 1), Scene.triangle(1, 0, 1),
-            Scene.triangle(1, 1, 0), Scene.triangle(0, 4, 3), Scene.triangle(3, 4, 0), Scene.triangle(1, 2, 4)};
-        for (int behind = 0; behind < 2; behind++) {
-            r.rule(6, behind);
-            for (int code : codes) {
-                Check.same("draw without area", r.draw(code), 0);
-                Check.same("covered without area", r.covered(code), 0);
-                Check.same("hits without area", r.hits(), 0);
-            }
-        }
-    }
-
     private static void seenFromBehind() {
         TileRenderer r = Scene.squared(5, 1);
         int behind = Scene.triangle(0, 2, 1);
@@ -181,26 +159,6 @@ public final class DrawTest {
         slopeIsDrawn("after corners changed", r);
     }
 
-    /** Hits of the whole picture with one depth, drawn over another depth. */
-    private static int hitsWith(int test, int depth, int before) {
-        TileRenderer r = Scene.squared(depth, 1);
-        r.clear(0, before, 0);
-        r.rule(0, test);
-        Scene.drawSquare(r);
-        return r.hits();
-    }
-
-    private static void depthTests() {
-        int[][] depths = {{99, 100}, {100, 100}, {101, 100}, {0, 0}, {255, 255}, {0, 255}, {255, 0}};
-        for (int[] d : depths) {
-            String what = " with " + d[0] + " over " + d[1];
-            Check.same("depth test 0" + what, hitsWith(0, d[0], d[1]), 0);
-            Check.same("depth test 1" + what, hitsWith(1, d[0], d[1]), 256);
-            Check.same("depth test 2" + what, hitsWith(2, d[0], d[1]), d[0] < d[1] ? 256 : 0);
-            Check.same("depth test 3" + what, hitsWith(3, d[0], d[1]), d[0] <= d[1] ? 256 : 0);
-        }
-    }
-
     private static void depthsWritten() {
         TileRenderer r = Scene.squared(40, 0x111111);
         r.rule(1, 0);
@@ -214,55 +172,6 @@ public final class DrawTest {
         r.rule(0, 1);
         Scene.drawSquare(r);
         Check.same("a greater depth that is written", r.depth(6, 6), 90);
-    }
-
-    private static void markTests() {
-        for (int mark = 0; mark < 16; mark++) {
-            for (int sign = 0; sign < 16; sign += 5) {
-                for (int test = 0; test < 3; test++) {
-                    TileRenderer r = Scene.squared(5, 1);
-                    r.clear(0, 255, mark);
-                    r.rule(3, test);
-                    r.rule(5, sign);
-                    Scene.drawSquare(r);
-                    boolean passes = test == 0 || (test == 1) == (mark == sign);
-                    Check.same("mark test " + test + " of " + mark + " by " + sign, r.hits(), passes ? 256 : 0);
-                    Check.same("mark that does not change", r.mark(3, 3), mark);
-                }
-            }
-        }
-    }
-
-    private static void markChanges() {
-        for (int mark = 0; mark < 16; mark++) {
-            for (int sign = 0; sign < 16; sign += 3) {
-                int[] due = {mark, sign, (mark + 1) % 16, mark ^ sign};
-                for (int change = 0; change < 4; change++) {
-                    TileRenderer r = Scene.squared(5, 1);
-                    r.clear(0, 255, mark);
-                    r.rule(4, change);
-                    r.rule(5, sign);
-                    r.draw(Scene.UPPER);
-                    Check.same("mark change " + change + " of " + mark + " by " + sign, r.mark(0, 14), due[change]);
-                    Check.same("mark that is not hit", r.mark(1, 14), mark);
-                }
-            }
-        }
-    }
-
-    private static void failedTestsChangeNothing() {
-        TileRenderer r = Scene.squared(50, 0x777777);
-        r.clear(0x102030, 50, 4);
-        int digest = r.digest();
-        r.rule(4, 2);
-        Scene.drawSquare(r);
-        Check.same("digest after a failed depth test", r.digest(), digest);
-        r.rule(0, 1);
-        r.rule(3, 2);
-        r.rule(5, 4);
-        Scene.drawSquare(r);
-        Check.same("digest after a failed mark test", r.digest(), digest);
-        Check.same("hits after failed tests", r.hits(), 0);
     }
 
     private static int mixed(int mixing, int s, int t) {
@@ -333,18 +242,5 @@ public final class DrawTest {
                 + mixed(mixing, 0x50 * 0xE0 / 255, 0x90);
             Check.same("pattern with mixing " + mixing, r.colour(4, 4), due);
         }
-    }
-
-    private static void coveredIgnoresTheWindow() {
-        TileRenderer r = Scene.squared(5, 1);
-        r.window(Scene.box(3, 2, 3, 2));
-        r.rule(0, 0);
-        r.rule(3, 1);
-        r.rule(5, 8);
-        int digest = r.digest();
-        Check.same("covered without a window", r.covered(Scene.UPPER), 120);
-        Check.same("covered without a window", r.covered(Scene.triangle(2, 3, 1)), 136);
-        Check.same("hits after covered", r.hits(), 0);
-        Check.same("digest after covered", r.digest(), digest);
     }
 }

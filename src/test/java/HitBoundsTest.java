@@ -68,6 +68,7 @@ public final class HitBoundsTest {
         firstPixel(254, 255, 255, 254);
         firstPixel(255, 255, 255, 255);
         greatestNumbers();
+        leastArea();
     }
 
     /** The greatest weights there are, with the greatest numbers. */
@@ -109,6 +110,20 @@ public final class HitBoundsTest {
                 Check.same("depth on the left edge", r.depth(0, k), ((16 - k) * 100 + k * 255) / 16);
                 Check.same("colour on the left edge", r.colour(0, k), 65536 * other + 256 * green);
             }
+        }
+    }
+
+    /** The least area is 1; the middle lies at one of its corners. */
+    private static void leastArea() {
+        for (int k = 0; k < 3; k++) {
+            TileRenderer r = new TileRenderer();
+            r.corner(k, Scene.place(8, 8), 200, 0xC0FFEE);
+            r.corner((k + 1) % 3, Scene.place(9, 8), 1, 1);
+            r.corner((k + 2) % 3, Scene.place(8, 9), 1, 1);
+            r.draw(Scene.triangle(0, 1, 2));
+            Check.same("hits of the least area", r.hits(), 1);
+            Check.same("depth of the least area", r.depth(0, 0), 200);
+            Check.same("colour of the least area", r.colour(0, 0), 0xC0FFEE);
         }
     }
 

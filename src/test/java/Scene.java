@@ -65,7 +65,7 @@ final class Scene {
         int q = (k + 2) % 6;
         r.clear(0, 255, 0);
         r.corner(p, place(256, 0), 255, WHITE);
-        r.corner(q, place(0, 256), 100, WHITE);
+        r.corner(q, place(0, 256), 100, 0x3060A0);
         r.aim(p, 127, 127);
         r.aim(q, 127, 127);
         for (int n = 0; n < 64; n++) {
@@ -77,9 +77,12 @@ final class Scene {
             for (int x = 0; x + y < 15; x++) {
                 String what = " at " + x + ", " + y + " with corner " + k + " " + when;
                 Check.same("depth" + what, r.depth(x, y), sloped(x, y, 0, 255, 100));
-                int s = sloped(x, y, 0, 255, 255);
-                int part = s * (36 * (sloped(x, y, 0, 127, 127) / 16)) / 255;
-                Check.same("colour" + what, r.colour(x, y), 65536 * part + 256 * part + s);
+                // The cells' red grows with U, their green with V, and their blue is full.
+                int share = 36 * (sloped(x, y, 0, 127, 127) / 16);
+                int red = sloped(x, y, 0, 255, 0x30) * share / 255;
+                int green = sloped(x, y, 0, 255, 0x60) * share / 255;
+                int blue = sloped(x, y, 0, 255, 0xA0);
+                Check.same("colour" + what, r.colour(x, y), 65536 * red + 256 * green + blue);
             }
         }
     }

@@ -1,4 +1,4 @@
-/** Promises 2 to 7 and 10: what sets corners, pattern and rules. */
+/** Promises 2 to 7 in ordinary use: what sets corners, pattern and rules. */
 public final class SettingsTest {
     public static void main(String[] args) {
         corner();
@@ -8,7 +8,6 @@ public final class SettingsTest {
         grab();
         window();
         rule();
-        reset();
         Check.end();
     }
 
@@ -157,43 +156,6 @@ public final class SettingsTest {
         }
         for (int what = 0; what < 8; what++) {
             Check.same("rule " + what + " is its own", r.rule(what, 0), greatest[what]);
-        }
-    }
-
-    private static void reset() {
-        TileRenderer r = Scene.busy();
-        int digest = r.digest();
-        int hits = r.hits();
-        int colour = r.colour(7, 7);
-        int depth = r.depth(7, 7);
-        int mark = r.mark(7, 7);
-        r.rule(6, 1);
-        r.reset();
-        Check.same("digest after reset", r.digest(), digest);
-        Check.same("hits after reset", r.hits(), hits);
-        Check.same("colour after reset", r.colour(7, 7), colour);
-        Check.same("depth after reset", r.depth(7, 7), depth);
-        Check.same("mark after reset", r.mark(7, 7), mark);
-        Check.same("covered after reset", r.covered(Scene.triangle(0, 1, 2)), 0);
-        r.clear(0, 255, 0);
-        for (int k = 0; k < 64; k++) {
-            Check.same("cell after reset", r.cell(k % 8, k / 8, 0), 0);
-        }
-        int[] first = {2, 1, 0, 0, 0, 0, 0, 0};
-        for (int what = 0; what < 8; what++) {
-            Check.same("rule " + what + " after reset", r.rule(what, first[what]), first[what]);
-        }
-        Scene.square(r, 5, Scene.WHITE);
-        Scene.drawSquare(r);
-        Check.same("hits with the window after reset", r.hits() - hits, 256);
-        resetCorners();
-    }
-
-    private static void resetCorners() {
-        for (int k = 0; k < 6; k++) {
-            TileRenderer r = Scene.busy();
-            r.reset();
-            Scene.cornerIsAtFirst("after reset", r, k);
         }
     }
 }
