@@ -63,26 +63,39 @@ final class Scene {
     static void cornerIsAtFirst(String when, TileRenderer r, int k) {
         int p = (k + 1) % 6;
         int q = (k + 2) % 6;
+        String what = "corner " + k + " " + when + ", ";
         r.clear(0, 255, 0);
         r.corner(p, place(256, 0), 255, WHITE);
-        r.corner(q, place(0, 256), 100, 0x3060A0);
+        r.corner(q, place(0, 256), 100, 0x3167A9);
+        r.draw(triangle(k, p, q));
+        for (int y = 0; y < 15; y++) {
+            for (int x = 0; x + y < 15; x++) {
+                int red = sloped(x, y, 0, 255, 0x31);
+                int green = sloped(x, y, 0, 255, 0x67);
+                int blue = sloped(x, y, 0, 255, 0xA9);
+                Check.same(what + "depth", r.depth(x, y), sloped(x, y, 0, 255, 100));
+                Check.same(what + "colour", r.colour(x, y), 65536 * red + 256 * green + blue);
+            }
+        }
+        aimIsAtFirst(what, r, k, p, q);
+    }
+
+    /** Looks at every other column, so that all stays within the object's 512 calls. */
+    private static void aimIsAtFirst(String what, TileRenderer r, int k, int p, int q) {
         r.aim(p, 127, 127);
-        r.aim(q, 127, 127);
+        r.aim(q, 127, 99);
         for (int n = 0; n < 64; n++) {
             r.cell(n % 8, n / 8, 65536 * 36 * (n % 8) + 256 * 36 * (n / 8) + 255);
         }
         r.rule(7, 1);
+        r.rule(0, 1);
         r.draw(triangle(k, p, q));
         for (int y = 0; y < 15; y++) {
-            for (int x = 0; x + y < 15; x++) {
-                String what = " at " + x + ", " + y + " with corner " + k + " " + when;
-                Check.same("depth" + what, r.depth(x, y), sloped(x, y, 0, 255, 100));
-                // The cells' red grows with U, their green with V, and their blue is full.
-                int share = 36 * (sloped(x, y, 0, 127, 127) / 16);
-                int red = sloped(x, y, 0, 255, 0x30) * share / 255;
-                int green = sloped(x, y, 0, 255, 0x60) * share / 255;
-                int blue = sloped(x, y, 0, 255, 0xA0);
-                Check.same("colour" + what, r.colour(x, y), 65536 * red + 256 * green + blue);
+            for (int x = 0; x + y < 15; x += 2) {
+                int red = sloped(x, y, 0, 255, 0x31) * (36 * (sloped(x, y, 0, 127, 127) / 16)) / 255;
+                int green = sloped(x, y, 0, 255, 0x67) * (36 * (sloped(x, y, 0, 127, 99) / 16)) / 255;
+                int blue = sloped(x, y, 0, 255, 0xA9);
+                Check.same(what + "colour by the pattern", r.colour(x, y), 65536 * red + 256 * green + blue);
             }
         }
     }
